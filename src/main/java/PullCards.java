@@ -320,38 +320,29 @@ public final class PullCards {
     // ---- on paper
 
     public int yields(int t) {
-        int number = paperTrouble(t);
-        if (number != 0) {
-            return refused(number);
-        }
-        return granted(paper.asNow(t));
+        return refusesPaper(t) ? NONE : granted(paper.asNow(t));
     }
 
     public int would(int b, int k, int n, int t) {
         if (!isBench(b) || !isKind(k)) {
             return refused(NO_SUCH);
         }
-        if (!within(n, MAX_CARDS) || paperTrouble(t) != 0) {
+        if (!within(n, MAX_CARDS)) {
             return refused(BAD_NUMBER);
         }
-        return granted(paper.withCards(cell(b, k), n, t));
+        return refusesPaper(t) ? NONE : granted(paper.withCards(cell(b, k), n, t));
     }
 
     public int fewest(int d, int t) {
-        int number = paperTrouble(t);
-        if (number != 0) {
-            return refused(number);
+        if (refusesPaper(t)) {
+            return NONE;
         }
-        if (!within(d, MAX_DELIVERED)) {
-            return refused(BAD_NUMBER);
-        }
-        return granted(paper.fewestFor(d, t));
+        return within(d, MAX_DELIVERED) ? granted(paper.fewestFor(d, t)) : refused(BAD_NUMBER);
     }
 
     public int thin(int t) {
-        int number = paperTrouble(t);
-        if (number != 0) {
-            return refused(number);
+        if (refusesPaper(t)) {
+            return NONE;
         }
         paper.takeOut(t);
         return granted(paper.trial.allCards());
@@ -361,45 +352,42 @@ public final class PullCards {
         if (!isBench(b) || !isKind(k)) {
             return refused(NO_SUCH);
         }
-        if (paperTrouble(t) != 0) {
-            return refused(BAD_NUMBER);
+        if (refusesPaper(t)) {
+            return NONE;
         }
         paper.takeOut(t);
         return granted(paper.trial.cards[cell(b, k)]);
     }
 
     public int helps(int t) {
-        int number = paperTrouble(t);
-        if (number != 0) {
-            return refused(number);
-        }
-        return granted(paper.bestCardMore(t));
+        return refusesPaper(t) ? NONE : granted(paper.bestCardMore(t));
     }
 
     public int holds(int t) {
-        int number = paperTrouble(t);
-        if (number != 0) {
-            return refused(number);
-        }
-        return granted(paper.bestSwiftBench(t));
+        return refusesPaper(t) ? NONE : granted(paper.bestSwiftBench(t));
     }
 
     public int comesAgain(int t, int what) {
         if (!told || !within(what, 1)) {
             return refused(NO_SUCH);
         }
-        if (paperTrouble(t) != 0) {
-            return refused(BAD_NUMBER);
+        if (refusesPaper(t)) {
+            return NONE;
         }
         int again = paper.firstAgain(t);
         return granted(what == 0 || again == NOT_ANY ? again : again - paper.againOf);
     }
 
-    private int paperTrouble(int t) {
+    private boolean refusesPaper(int t) {
         if (!told) {
-            return NO_SUCH;
+            refused(NO_SUCH);
+            return true;
         }
-        return t < 1 || t > MAX_PAPER ? BAD_NUMBER : 0;
+        if (t < 1 || t > MAX_PAPER) {
+            refused(BAD_NUMBER);
+            return true;
+        }
+        return false;
     }
 
     // ---- acts

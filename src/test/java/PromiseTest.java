@@ -181,6 +181,7 @@ public final class PromiseTest {
             + "bench u 1,1,1;order a every 1 from 0;order a every 1 from 0;order b every 1 from 0;"
             + "order c every 1 from 0", 6);
         right("ware wares;bench benchs 1 setup 60", 1);
+        right("ware a;bench p 1" + ";cards p a 1".repeat(48) + "        ", 1);
         PullCards x = of(TWO);
         feedAll(x, TWO);
         refused(x, "text(61)", x.text(61), 2);
@@ -204,6 +205,11 @@ public final class PromiseTest {
 
     private static void formFaults() {
         promise = 3;
+        faulty(",".repeat(600), 1, 0);
+        faulty("ware a" + ";".repeat(594), 1, 7);
+        faulty("ware " + "a".repeat(595), 1, 5);
+        faulty("ware a;bench p " + "1".repeat(585), 1, 15);
+        faulty("ware a;bench p 1" + ";cards p a 1".repeat(48) + "       ;", 1, 600);
         faulty("", 1, 0);
         faulty("   ", 1, 3);
         faulty(";", 1, 0);
@@ -704,6 +710,17 @@ public final class PromiseTest {
         refused(x, "fewest(-1, 1)", x.fewest(-1, 1), 2);
         refused(x, "fewest(1, 0)", x.fewest(1, 0), 2);
         refused(x, "fewest(1, 2001)", x.fewest(1, 2001), 2);
+        // nine lie at 540; four a minute are asked for from 600 on; the tenth is made at 660
+        PullCards slow = of("ware a;bench p 60;order a every 1 from 600;order a every 1 from 600;"
+            + "order a every 1 from 600;order a every 1 from 600");
+        is("fewest(8, 603)", slow.fewest(8, 603), 8);
+        is("fewest(9, 603)", slow.fewest(9, 603), 9);
+        is("fewest(10, 603)", slow.fewest(10, 603), -2);
+        promise = 26;
+        slow.cards(0, 0, 8);
+        is("a ninth helps", slow.helps(603), 0);
+        slow.cards(0, 0, 9);
+        is("a tenth can't be", slow.helps(603), -2);
         promise = 24;
         x.cards(0, 0, 9);
         is("thin(31): two are needed", x.thin(31), 2);
