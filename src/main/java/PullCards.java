@@ -1487,7 +1487,9 @@ public final class PullCards {
 
     /** States of a line by minute, in buckets, so that a like one is found without looking at all. */
     static final class Trace {
-        private static final int BUCKETS = 1024;
+        private static final int BUCKET_BITS = 10;
+        private static final int BUCKETS = 1 << BUCKET_BITS;
+        private static final long SPREAD = 0x9E3779B97F4A7C15L;
         private final long[] rows = new long[MAX_PAPER * Line.SIGN_LONGS];
         private final int[] heads = new int[BUCKETS];
         private final int[] chain = new int[MAX_PAPER];
@@ -1515,13 +1517,14 @@ public final class PullCards {
             return NONE;
         }
 
+        // The highest bits, since only to these all parts of a row are carried by multiplying.
         private int bucketOf(int minute) {
             long mix = 0;
             for (int j = 0; j < Line.SIGN_LONGS; j++) {
-                mix = mix * 1000003L + rows[Line.SIGN_LONGS * minute + j];
-                mix ^= mix >>> 29;
+                mix = (mix ^ rows[Line.SIGN_LONGS * minute + j]) * SPREAD;
+                mix ^= mix >>> 32;
             }
-            return (int) (mix & (BUCKETS - 1));
+            return (int) (mix * SPREAD >>> (64 - BUCKET_BITS));
         }
 
         private boolean isAlike(int minute, int other) {

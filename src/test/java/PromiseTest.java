@@ -61,36 +61,9 @@ public final class PromiseTest {
         is(what + ", where", x.where(), PullCards.NONE);
     }
 
-    private static void feedAll(PullCards x, String text) {
-        StringBuilder s = new StringBuilder(text);
-        while (s.length() % 20 != 0) {
-            s.append(' ');
-        }
-        for (int i = 0; i < s.length(); i += 20) {
-            int[] five = new int[5];
-            for (int j = 0; j < 20; j++) {
-                five[j / 4] = five[j / 4] << 8 | s.charAt(i + j);
-            }
-            x.feed(five[0], five[1], five[2], five[3], five[4]);
-        }
-    }
-
-    private static int tell(PullCards x, String text) {
-        feedAll(x, text);
-        return x.text(text.length());
-    }
-
-    private static PullCards of(String text) {
-        PullCards x = new PullCards();
-        if (tell(x, text) == PullCards.NONE) {
-            is("text " + text + " has fault " + x.fault() + " at " + x.where(), 1, 0);
-        }
-        return x;
-    }
-
     private static void faulty(String text, int fault, int place) {
-        PullCards x = of(TWO);
-        is(text, tell(x, text), PullCards.NONE);
+        PullCards x = Tell.of(TWO);
+        is(text, Tell.text(x, text), PullCards.NONE);
         is(text + ", trouble", x.trouble(), 4);
         is(text + ", fault", x.fault(), fault);
         is(text + ", where", x.where(), place);
@@ -100,7 +73,7 @@ public final class PromiseTest {
 
     private static void right(String text, int benches) {
         PullCards x = new PullCards();
-        is(text, tell(x, text), benches);
+        is(text, Tell.text(x, text), benches);
         is(text + ", trouble", x.trouble(), 0);
         is(text + ", fault", x.fault(), 0);
         is(text + ", where", x.where(), PullCards.NONE);
@@ -164,7 +137,7 @@ public final class PromiseTest {
         is("feed keeps where", x.feed(0, 0, 0, 0, 0), 20);
         is("where()", x.where(), 4);
         is("trouble()", x.trouble(), 4);
-        is("highest byte first", tell(of(TWO), TWO), 2);
+        is("highest byte first", Tell.text(Tell.of(TWO), TWO), 2);
         x = new PullCards();
         x.feed(('w' << 24) | ('a' << 16) | ('r' << 8) | 'e', 0x20612020, 0x20202020, 0x20202020, 0x20202020);
         x.text(20);
@@ -182,8 +155,8 @@ public final class PromiseTest {
             + "order c every 1 from 0", 6);
         right("ware wares;bench benchs 1 setup 60", 1);
         right("ware a;bench p 1" + ";cards p a 1".repeat(48) + "        ", 1);
-        PullCards x = of(TWO);
-        feedAll(x, TWO);
+        PullCards x = Tell.of(TWO);
+        Tell.feed(x, TWO);
         refused(x, "text(61)", x.text(61), 2);
         refused(x, "text(-1)", x.text(-1), 2);
         is("the tape stays", x.bytes(), 60);
@@ -192,7 +165,7 @@ public final class PromiseTest {
         x.run(20);
         x.cards(0, 0, 4);
         x.keep(0);
-        feedAll(x, "ware z;bench y 7;ware v");
+        Tell.feed(x, "ware z;bench y 7;ware v");
         is("the first bytes alone", x.text(16), 1);
         is("bytes behind are gone, too", x.bytes(), 0);
         is("at its beginning", x.about(4), 0);
@@ -305,7 +278,7 @@ public final class PromiseTest {
     private static void faultAndWhere() {
         promise = 4;
         PullCards x = new PullCards();
-        tell(x, "ware a;bench p 0");
+        Tell.text(x, "ware a;bench p 0");
         is("fault()", x.fault(), 2);
         promise = 5;
         is("where()", x.where(), 15);
@@ -317,9 +290,9 @@ public final class PromiseTest {
         is("where() behind a refusal by 2", x.where(), -1);
         promise = 4;
         is("fault() behind a refusal by 2", x.fault(), 2);
-        tell(x, TWO);
+        Tell.text(x, TWO);
         is("fault() behind a text", x.fault(), 0);
-        tell(x, "x");
+        Tell.text(x, "x");
         is("fault()", x.fault(), 1);
         promise = 5;
         is("where()", x.where(), 0);
@@ -332,7 +305,7 @@ public final class PromiseTest {
     // ---- what is told
 
     private static void whatIsTold() {
-        PullCards x = of(PAIR + "bench p 5,7 setup 2 rest 3 every 4;bench q 1,2;cards q b 6;"
+        PullCards x = Tell.of(PAIR + "bench p 5,7 setup 2 rest 3 every 4;bench q 1,2;cards q b 6;"
             + "order b every 9 from 8;order a every 7 from 0;rule most");
         promise = 6;
         int[] about = {2, 2, 2, 1, 0, 9, 0, 0};
@@ -393,7 +366,7 @@ public final class PromiseTest {
 
     private static void begins() {
         promise = 11;
-        PullCards x = of(TWO + ";cards q a 3");
+        PullCards x = Tell.of(TWO + ";cards q a 3");
         x.run(30);
         is("begin(true)", x.begin(true), true);
         is("trouble", x.trouble(), 0);
@@ -418,7 +391,7 @@ public final class PromiseTest {
 
     private static void runs() {
         promise = 12;
-        PullCards x = of(TWO);
+        PullCards x = Tell.of(TWO);
         refused(x, "run(0)", x.run(0), 2);
         refused(x, "run(501)", x.run(501), 2);
         refused(x, "run(-5)", x.run(-5), 2);
@@ -460,21 +433,21 @@ public final class PromiseTest {
     /** What is freed by the last bench can be used by those ahead of it in the same minute. */
     private static void runOrder() {
         promise = 12;
-        PullCards x = of("ware a;bench p 1;bench q 1;bench r 1;order a every 1 from 0");
+        PullCards x = Tell.of("ware a;bench p 1;bench q 1;bench r 1;order a every 1 from 0");
         is("run(10)", x.run(10), 7);
         is("r works from 2 on", x.counts(2, 1), 8);
         is("p never waits", x.counts(0, 1), 10);
         is("starved at the beginning", x.counts(2, 3), 2);
         is("first delivered at 3", x.firstOf(0), 3);
-        x = of("ware a;bench p 1");
+        x = Tell.of("ware a;bench p 1");
         x.run(5);
         is("without orders the one card stays", x.counts(0, 4), 4);
         is("finished", x.counts(0, 0), 1);
         is("lies", x.cardsOf(0, 0, 1), 1);
-        x = of(PAIR + "bench p 1,1;cards p a 0;order a every 1 from 0;order b every 3 from 0");
+        x = Tell.of(PAIR + "bench p 1,1;cards p a 0;order a every 1 from 0;order b every 3 from 0");
         is("only b is made, for 0 at 1, for 3, 6, 9 at once", x.run(10), 4);
         is("a waits", x.orders(0, 2), 10);
-        x = of("ware a;bench p 1;cards p a 0");
+        x = Tell.of("ware a;bench p 1;cards p a 0");
         x.run(4);
         is("no card at all: blocked", x.counts(0, 4), 4);
     }
@@ -485,7 +458,7 @@ public final class PromiseTest {
         int[][] made = {{0, 0, 1, 1, 1, 2, 2, 2}, {1, 2, 0, 1, 2, 0, 1, 2}, {0, 1, 2, 0, 1, 2, 1, 2}};
         String[] names = {"first", "most", "turn"};
         for (int r = 0; r < 3; r++) {
-            PullCards x = of(three + ";rule " + names[r]);
+            PullCards x = Tell.of(three + ";rule " + names[r]);
             is("the rule", x.about(3), r);
             for (int t = 0; t < 8; t++) {
                 x.run(1);
@@ -494,7 +467,7 @@ public final class PromiseTest {
             x.run(1);
             is(names[r] + ": none left", x.does(0, 0), 0);
         }
-        PullCards x = of("ware a;ware b;bench p 1,1;bench q 9,9;rule turn;cards q a 2");
+        PullCards x = Tell.of("ware a;ware b;bench p 1,1;bench q 9,9;rule turn;cards q a 2");
         x.run(2);
         is("q has but a", x.does(1, 1), 0);
         x.run(9);
@@ -505,7 +478,7 @@ public final class PromiseTest {
 
     private static void restsAndSetups() {
         promise = 13;
-        PullCards x = of("ware a;bench p 2 rest 3 every 2;order a every 1 from 0");
+        PullCards x = Tell.of("ware a;bench p 2 rest 3 every 2;order a every 1 from 0");
         int[] does = {1, 1, 1, 1, 2, 2, 2, 1, 1, 1, 1, 2};
         int[] left = {1, 0, 1, 0, 2, 1, 0, 1, 0, 1, 0, 2};
         for (int t = 0; t < does.length; t++) {
@@ -520,7 +493,7 @@ public final class PromiseTest {
         is("worked", x.counts(0, 1), 8);
         is("finished", x.counts(0, 0), 4);
         promise = 12;
-        x = of(PAIR + "bench p 1,2 setup 3;rule turn;order a every 1 from 0;order b every 1 from 0");
+        x = Tell.of(PAIR + "bench p 1,2 setup 3;rule turn;order a every 1 from 0;order b every 1 from 0");
         // a till 1; b and setup till 6; a and setup till 10
         is("the first one without a setup", x.run(2), 1);
         is("till 5", x.run(4), 0);
@@ -529,13 +502,13 @@ public final class PromiseTest {
         is("a at 10", x.run(1), 1);
         is("a", x.orders(0, 1), 2);
         is("b", x.orders(1, 1), 1);
-        x = of(PAIR + "bench p 4,4 setup 9;order a every 4 from 4");
+        x = Tell.of(PAIR + "bench p 4,4 setup 9;order a every 4 from 4");
         is("the same kind needs none", x.run(13), 3);
     }
 
     private static void countsAndOrders() {
         promise = 14;
-        PullCards x = of(TWO);
+        PullCards x = Tell.of(TWO);
         x.run(10);
         int[] p = {3, 8, 0, 0, 2};
         int[] q = {2, 8, 0, 2, 0};
@@ -556,7 +529,7 @@ public final class PromiseTest {
         refused(x, "orders(1, 0)", x.orders(1, 0), 1);
         refused(x, "orders(-1, 0)", x.orders(-1, 0), 1);
         refused(x, "orders(0, 4)", x.orders(0, 4), 1);
-        x = of("ware a;bench p 60;order a every 1 from 0;order a every 2 from 1;order a every 99 from 999");
+        x = Tell.of("ware a;bench p 60;order a every 1 from 0;order a every 2 from 1;order a every 99 from 999");
         x.run(4);
         is("two streams of a kind", x.orders(0, 0), 6);
         is("waited: 3, 2, 2, 1, 0, 0", x.orders(0, 3), 8);
@@ -578,7 +551,7 @@ public final class PromiseTest {
 
     private static void starvedAndPeaks() {
         promise = 16;
-        PullCards x = of("ware a;bench p 5;bench q 1;order a every 1 from 0");
+        PullCards x = Tell.of("ware a;bench p 5;bench q 1;order a every 1 from 0");
         x.run(6);
         refused(x, "not yet: ahead of its first work it doesn't count", x.starved(0), 6);
         is("though counted", x.counts(1, 3), 5);
@@ -589,7 +562,7 @@ public final class PromiseTest {
         is("the first stays", x.starved(0), 6);
         refused(x, "starved(2)", x.starved(2), 1);
         refused(x, "starved(-1)", x.starved(-1), 1);
-        x = of("ware a;bench p 60;bench q 1;bench r 1;order a every 1 from 0");
+        x = Tell.of("ware a;bench p 60;bench q 1;bench r 1;order a every 1 from 0");
         x.begin(true);
         x.run(1);
         x.cards(1, 0, 0);
@@ -605,18 +578,18 @@ public final class PromiseTest {
         x.run(1);
         is("both are starved at 4", x.starved(0), 4);
         is("of several the last", x.starved(1), 2);
-        x = of("ware a;bench p 9;bench q 2;bench r 1;order a every 1 from 0");
+        x = Tell.of("ware a;bench p 9;bench q 2;bench r 1;order a every 1 from 0");
         x.begin(true);
         x.run(1);
         refused(x, "all three work", x.starved(0), 6);
         x.run(1);
         is("r, at 1", 10 * x.starved(0) + x.starved(1), 12);
-        x = of("ware a;bench p 9;bench q 1;bench r 1;order a every 1 from 0");
+        x = Tell.of("ware a;bench p 9;bench q 1;bench r 1;order a every 1 from 0");
         x.begin(true);
         x.run(2);
         is("q alone at 1: r works on", 10 * x.starved(0) + x.starved(1), 11);
         promise = 17;
-        x = of("ware a;bench p 1;bench q 3;cards p a 3;order a every 1 from 0");
+        x = Tell.of("ware a;bench p 1;bench q 3;cards p a 3;order a every 1 from 0");
         is("peak(0) at the beginning", x.peak(0), 0);
         x.run(2);
         is("peak(0): taken in the minute it was laid", x.peak(0), 0);
@@ -627,14 +600,14 @@ public final class PromiseTest {
         is("peak(0), full", x.peak(0), 3);
         refused(x, "peak(2)", x.peak(2), 1);
         refused(x, "peak(-1)", x.peak(-1), 1);
-        x = of(PAIR + "bench p 1,1");
+        x = Tell.of(PAIR + "bench p 1,1");
         x.run(4);
         is("peak: kinds together", x.peak(0), 2);
     }
 
     private static void ratesAndBusiest() {
         promise = 19;
-        PullCards x = of(TWO);
+        PullCards x = Tell.of(TWO);
         refused(x, "rate(0)", x.rate(0), 5);
         refused(x, "rate(2) tells 1 first", x.rate(2), 1);
         refused(x, "rate(-1)", x.rate(-1), 1);
@@ -661,7 +634,7 @@ public final class PromiseTest {
 
     private static void yieldsOnPaper() {
         promise = 21;
-        PullCards x = of(TWO);
+        PullCards x = Tell.of(TWO);
         x.run(7);
         is("yields(5)", x.yields(5), 0);
         is("yields(6)", x.yields(6), 1);
@@ -688,7 +661,7 @@ public final class PromiseTest {
         refused(x, "would(0, 0, 1, 0)", x.would(0, 0, 1, 0), 2);
         refused(x, "would(0, 0, 1, 2001)", x.would(0, 0, 1, 2001), 2);
         promise = 21;
-        x = of(PAIR + "bench p 1,5;order a every 1 from 0;order b every 1 from 0");
+        x = Tell.of(PAIR + "bench p 1,5;order a every 1 from 0;order b every 1 from 0");
         is("by the rule as now", x.yields(10), 9);
         x.rule(2);
         is("by another", x.yields(13), 4);
@@ -697,7 +670,7 @@ public final class PromiseTest {
     private static void fewestAndThin() {
         promise = 23;
         // p and q by turns need a card each that lies while the other works
-        PullCards x = of("ware a;bench p 3;order a every 3 from 30;order a every 3 from 30");
+        PullCards x = Tell.of("ware a;bench p 3;order a every 3 from 30;order a every 3 from 30");
         is("one is ready at 30, one at 33, ..", x.would(0, 0, 1, 31), 1);
         is("fewest(1, 31)", x.fewest(1, 31), 1);
         is("fewest(2, 31)", x.fewest(2, 31), 2);
@@ -711,7 +684,7 @@ public final class PromiseTest {
         refused(x, "fewest(1, 0)", x.fewest(1, 0), 2);
         refused(x, "fewest(1, 2001)", x.fewest(1, 2001), 2);
         // nine lie at 540; four a minute are asked for from 600 on; the tenth is made at 660
-        PullCards slow = of("ware a;bench p 60;order a every 1 from 600;order a every 1 from 600;"
+        PullCards slow = Tell.of("ware a;bench p 60;order a every 1 from 600;order a every 1 from 600;"
             + "order a every 1 from 600;order a every 1 from 600");
         is("fewest(8, 603)", slow.fewest(8, 603), 8);
         is("fewest(9, 603)", slow.fewest(9, 603), 9);
@@ -734,18 +707,18 @@ public final class PromiseTest {
         refused(x, "thinAt(0, 1, 0)", x.thinAt(0, 1, 0), 1);
         refused(x, "thinAt(0, 0, 0)", x.thinAt(0, 0, 0), 2);
         refused(x, "thinAt(0, 0, 2001)", x.thinAt(0, 0, 2001), 2);
-        x = of("ware a;bench p 1;bench q 1;cards p a 2;cards q a 2;order a every 1 from 50;order a every 1 from 50;"
+        x = Tell.of("ware a;bench p 1;bench q 1;cards p a 2;cards q a 2;order a every 1 from 50;order a every 1 from 50;"
             + "order a every 1 from 50");
         is("thin(51): one of p goes, then none", x.thin(51), 3);
         is("left of p", x.thinAt(0, 0, 51), 1);
         is("left of q", x.thinAt(1, 0, 51), 2);
         // either of a and b will do, and of each bench and kind only one goes a round
-        x = of(PAIR + "bench p 1,1;cards p a 3;cards p b 3;order a every 1 from 9;order b every 1 from 9");
+        x = Tell.of(PAIR + "bench p 1,1;cards p a 3;cards p b 3;order a every 1 from 9;order b every 1 from 9");
         is("thin(10)", x.thin(10), 2);
         is("left of a", x.thinAt(0, 0, 10), 1);
         is("left of b", x.thinAt(0, 1, 10), 1);
         // by turns a's long work holds b up: without a more are delivered, which then mustn't be lost
-        x = of(PAIR + "bench p 9,1;rule turn;order a every 9 from 0;order b every 1 from 0");
+        x = Tell.of(PAIR + "bench p 9,1;rule turn;order a every 9 from 0;order b every 1 from 0");
         is("with both", x.yields(41), 8);
         is("a's card goes", x.thinAt(0, 0, 41), 0);
         is("b's stays", x.thinAt(0, 1, 41), 1);
@@ -753,7 +726,7 @@ public final class PromiseTest {
 
     private static void helpsAndHolds() {
         promise = 26;
-        PullCards x = of("ware a;ware b;bench p 1,1;bench q 1,1;order b every 9 from 30;order b every 9 from 30");
+        PullCards x = Tell.of("ware a;ware b;bench p 1,1;bench q 1,1;order b every 9 from 30;order b every 9 from 30");
         is("a second b in the last store", x.helps(31), 4);
         x.cards(1, 1, 9);
         is("no more", x.helps(31), -2);
@@ -768,10 +741,10 @@ public final class PromiseTest {
         is("none has fewer than 9", x.helps(31), -2);
         refused(x, "helps(0)", x.helps(0), 2);
         refused(x, "helps(2001)", x.helps(2001), 2);
-        x = of("ware a;ware b;bench p 1,1;cards p a 0;cards p b 0;order a every 1 from 0;order b every 1 from 0");
+        x = Tell.of("ware a;ware b;bench p 1,1;cards p a 0;cards p b 0;order a every 1 from 0;order b every 1 from 0");
         is("of like ones the first", x.helps(40), 0);
         promise = 27;
-        x = of("ware a;bench p 2;bench q 5;bench r 3;order a every 1 from 0");
+        x = Tell.of("ware a;bench p 2;bench q 5;bench r 3;order a every 1 from 0");
         is("holds(500)", x.holds(500), 1);
         is("times stay", x.timeOf(1, 0), 5);
         is("holds(1): of like ones the first", x.holds(1), 0);
@@ -783,7 +756,7 @@ public final class PromiseTest {
 
     private static void againOnPaper() {
         promise = 28;
-        PullCards x = of("ware a;bench p 1");
+        PullCards x = Tell.of("ware a;bench p 1");
         // minute 0 works; behind 1 and 2 the one ware lies
         is("comesAgain(100, 0)", x.comesAgain(100, 0), 2);
         is("comesAgain(100, 1)", x.comesAgain(100, 1), 1);
@@ -794,14 +767,14 @@ public final class PromiseTest {
         refused(x, "comesAgain(2001, 0)", x.comesAgain(2001, 0), 2);
         refused(x, "comesAgain(0, 2)", x.comesAgain(0, 2), 1);
         refused(x, "comesAgain(1, -1)", x.comesAgain(1, -1), 1);
-        x = of("ware a;bench p 1;order a every 50 from 40");
+        x = Tell.of("ware a;bench p 1;order a every 50 from 40");
         is("not ahead of from: 90 at first", x.comesAgain(200, 0), 90);
         is("a period of the stream", x.comesAgain(200, 1), 50);
         is("comesAgain(91, 0)", x.comesAgain(91, 0), 90);
         is("comesAgain(90, 0)", x.comesAgain(90, 0), -2);
-        x = of("ware a;bench p 3;order a every 2 from 0");
+        x = Tell.of("ware a;bench p 3;order a every 2 from 0");
         is("ever more wait", x.comesAgain(2000, 0), -2);
-        x = of("ware a;bench p 1 rest 1 every 7;order a every 2 from 0");
+        x = Tell.of("ware a;bench p 1 rest 1 every 7;order a every 2 from 0");
         is("seven by EVERY make the period 14", x.comesAgain(2000, 1), 14);
     }
 
@@ -809,7 +782,7 @@ public final class PromiseTest {
 
     private static void acts() {
         promise = 29;
-        PullCards x = of(TWO);
+        PullCards x = Tell.of(TWO);
         is("cards(0, 0, 9)", x.cards(0, 0, 9), 1);
         is("cards(0, 0, 0)", x.cards(0, 0, 0), 9);
         is("cards(0, 0, 0) again", x.cards(0, 0, 0), 0);
@@ -822,7 +795,7 @@ public final class PromiseTest {
         is("at once: p can't begin", x.run(3), 0);
         is("blocked", x.counts(0, 4), 3);
         promise = 30;
-        x = of(TWO);
+        x = Tell.of(TWO);
         x.run(1);
         is("time(0, 0, 60)", x.time(0, 0, 60), 2);
         is("what is at work goes on", x.does(0, 2), 1);
@@ -843,7 +816,7 @@ public final class PromiseTest {
 
     private static void undoing() {
         promise = 32;
-        PullCards x = of(TWO);
+        PullCards x = Tell.of(TWO);
         refused(x, "undo()", x.undo(), 5);
         x.cards(0, 0, 2);
         x.time(1, 0, 9);
@@ -873,7 +846,7 @@ public final class PromiseTest {
 
     private static void imagesKept() {
         promise = 33;
-        PullCards x = of(TWO);
+        PullCards x = Tell.of(TWO);
         x.run(10);
         x.cards(0, 0, 3);
         is("keep(0)", x.keep(0), true);
@@ -915,13 +888,13 @@ public final class PromiseTest {
         x.begin(false);
         x.back(0);
         is("kept anew", x.about(4), 60);
-        tell(x, "wares");
+        Tell.text(x, "wares");
         is("a faulty text leaves images", x.back(0), true);
     }
 
     private static void names() {
         promise = 35;
-        PullCards x = of("ware a;ware zebra;bench pqrstu 1,1;bench b 1,1");
+        PullCards x = Tell.of("ware a;ware zebra;bench pqrstu 1,1;bench b 1,1");
         is("letter(true, 0, 0)", x.letter(true, 0, 0), 0);
         is("letter(true, 1, 0)", x.letter(true, 1, 0), 25);
         is("letter(true, 1, 4)", x.letter(true, 1, 4), 0);
@@ -946,7 +919,7 @@ public final class PromiseTest {
 
     private static void troubles() {
         promise = 37;
-        PullCards x = of(TWO);
+        PullCards x = Tell.of(TWO);
         x.undo();
         is("trouble()", x.trouble(), 5);
         is("trouble() again", x.trouble(), 5);
