@@ -1337,6 +1337,7 @@ public final class PullCards {
             }
         }
 
+        // Each part has bits enough: 119 minutes, 98 wares by every, 9 wares of a kind at most; 30 in all.
         private long signOfBench(int b) {
             long sign = doing[b];
             sign = (sign << 2) + (last[b] == NOT_ANY ? MAX_KINDS : last[b]);

@@ -11,6 +11,8 @@ public final class RunBoundaryTest extends Sentences {
         atFirst();
         cardsHeld();
         lastStore();
+        minuteInOrder();
+        worksEndInStores();
         restsByEvery();
         restsEnd();
         ordersCome();
@@ -141,6 +143,37 @@ public final class RunBoundaryTest extends Sentences {
         x = Tell.of("ware a;bench p 60;cards p a 5" + FLOW);
         x.begin(true);
         is("of one bench the first is the last", x.run(3), 3);
+    }
+
+    private static void minuteInOrder() {
+        sentence("a MINUTE t, in this order");
+        PullCards x = Tell.of("ware a;bench p 3" + FLOW);
+        x.run(3);
+        is("ahead of 3 none is delivered", x.orders(0, 1), 0);
+        x.run(1);
+        is("finished at 3, delivered at 3", x.firstOf(0), 3);
+        is("its card is used at 3", x.does(0, 2), 2);
+        is("so p was never idle", x.counts(0, 1), 4);
+        x = Tell.of("ware a;bench p 3;bench q 1");
+        x.run(4);
+        is("laid at 3, taken at 3", x.counts(1, 1), 1);
+        is("what it begins at 3 isn't starved at 3", x.counts(1, 3), 3);
+        x = Tell.of("ware a;bench p 1;order a every 99 from 5");
+        x.begin(true);
+        x.run(6);
+        is("came at 5, served at 5", x.orders(0, 1), 1);
+        is("waited", x.orders(0, 3), 0);
+    }
+
+    private static void worksEndInStores() {
+        sentence("1. BENCH by BENCH, from 0 on: whose work ends at t: the ware lies in its STORE");
+        PullCards x = Tell.of(PAIR + "bench p 60,1;cards p b 0");
+        x.run(60);
+        is("not at 59", x.cardsOf(0, 0, 1), 0);
+        x.run(1);
+        is("at 60", x.cardsOf(0, 0, 1), 1);
+        is("finished", x.counts(0, 0), 1);
+        is("of its kind", x.cardsOf(0, 1, 1), 0);
     }
 
     private static void restsByEvery() {
