@@ -119,6 +119,22 @@ public final class PaperBoundaryTest extends Sentences {
         is("of which there are none", x.thinAt(0, 0, 50), 0);
         x = Tell.of("ware a;bench p 1;cards p a 0" + FLOW);
         is("there are none at all", x.thin(2000), 0);
+        lessThanWithIt();
+    }
+
+    /** By turns a's long work holds b and c up: without a's card more is delivered, of which c's is a part. */
+    private static void lessThanWithIt() {
+        PullCards x = Tell.of(THREE + "bench p 9,1,1;rule turn;order a every 9 from 0;order b every 2 from 0;"
+            + "order c every 4 from 1");
+        int withAll = x.yields(41);
+        is("without a's more", x.would(0, 0, 0, 41) > withAll, true);
+        x.cards(0, 0, 0);
+        is("then without c's less", x.would(0, 2, 0, 41) < x.yields(41), true);
+        is("though not less than with all", x.would(0, 2, 0, 41) >= withAll, true);
+        x.undo();
+        is("a's goes", x.thinAt(0, 0, 41), 0);
+        is("b's stays", x.thinAt(0, 1, 41), 1);
+        is("c's stays: less than with it", x.thinAt(0, 2, 41), 1);
     }
 
     // ---- promises 21 to 25

@@ -717,7 +717,7 @@ public final class PromiseTest {
         is("thin(10)", x.thin(10), 2);
         is("left of a", x.thinAt(0, 0, 10), 1);
         is("left of b", x.thinAt(0, 1, 10), 1);
-        // by turns a's long work holds b up: without a more are delivered, which then mustn't be lost
+        // by turns a's long work holds b up: without a more are delivered
         x = Tell.of(PAIR + "bench p 9,1;rule turn;order a every 9 from 0;order b every 1 from 0");
         is("with both", x.yields(41), 8);
         is("a's card goes", x.thinAt(0, 0, 41), 0);
