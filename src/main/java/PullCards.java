@@ -518,10 +518,10 @@ public final class PullCards {
         // One number names each lever, so that an act is kept as lever and old value.
         int turn(int lever, int value) {
             int old;
-            if (lever < CELLS) {
+            if (lever >= 0 && lever < CELLS) {
                 old = cards[lever];
                 cards[lever] = value;
-            } else if (lever < CELLS + CELLS) {
+            } else if (lever >= CELLS && lever < CELLS + CELLS) {
                 old = times[lever - CELLS];
                 times[lever - CELLS] = value;
             } else {
@@ -716,8 +716,10 @@ public final class PullCards {
             return tape[at] >= '0' && tape[at] <= '9';
         }
 
+        // NONE where no byte stands: a letter that is like none of a name.
         int letterAt(int i, int j) {
-            return tape[places[i] + j] - 'a';
+            int place = places[i] + j;
+            return place >= 0 && place < TAPE_BYTES ? tape[place] - 'a' : NONE;
         }
     }
 
@@ -932,7 +934,7 @@ public final class PullCards {
             if (placeOfName(0, plan.kinds) >= 0 || placeOfName(MAX_KINDS, plan.benches) >= 0) {
                 return blame(FAULT_NAME);
             }
-            int size = tokens.sizes[at];
+            int size = Math.min(tokens.sizes[at], NAME_LETTERS);
             plan.nameSizes[slot] = size;
             for (int j = 0; j < size; j++) {
                 plan.nameLetters[NAME_LETTERS * slot + j] = tokens.letterAt(at, j);
@@ -1164,7 +1166,9 @@ public final class PullCards {
                 doing[b] = IDLE;
                 return;
             }
-            store[cell(b, last[b])]++;
+            if (last[b] >= 0) {
+                store[cell(b, last[b])]++;
+            }
             finished[b]++;
             doing[b] = IDLE;
             if (plan.every[b] > 0 && remainder(finished[b], plan.every[b]) == 0) {
@@ -1191,7 +1195,7 @@ public final class PullCards {
 
         private void deliver(int k) {
             int at = cell(plan.benches - 1, k);
-            int wares = Math.min(waiting[k], store[at]);
+            int wares = at >= 0 ? Math.min(waiting[k], store[at]) : 0;
             if (wares > 0) {
                 waiting[k] -= wares;
                 store[at] -= wares;
